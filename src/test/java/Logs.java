@@ -53,6 +53,21 @@ final class Logs {
         return row(log.count(1), b -> log.batch(b, 4));
     }
 
+    /** How many records the batches have. */
+    static String lengths(LogCleaner log) {
+        return row(log.count(1), b -> log.batch(b, 1));
+    }
+
+    /** The sizes of the batches. */
+    static String sizes(LogCleaner log) {
+        return row(log.count(1), b -> log.batch(b, 3));
+    }
+
+    /** What count answers of 0, 1, 2, 3 and 4. */
+    static String counts(LogCleaner log) {
+        return row(5, log::count);
+    }
+
     /** For each batch, whether the log knows it. */
     static String known(LogCleaner log) {
         return row(log.count(1), b -> log.batch(b, 5));
@@ -86,6 +101,31 @@ final class Logs {
         for (int i = 0; i < n; i++) {
             log.record(from + i, 8, true, from + i, 0);
         }
+    }
+
+    /** A batch of one record of the least size: no key, no value; it stays in every cleaning. */
+    static void least(LogCleaner log, int producer) {
+        log.record(0, LogCleaner.NONE, false, 0, 0);
+        log.close(producer);
+    }
+
+    /**
+     * A batch of exactly that size, 69 .. 1600, whose records stay in every cleaning: those without
+     * a key for that reason, the one with a key (the next offset) as no other has it.
+     */
+    static void sized(LogCleaner log, int size) {
+        int rest = size - 61;
+        for (; rest >= 32; rest -= 16) {
+            log.record(0, LogCleaner.NONE, true, 0, 0);
+        }
+        if (rest >= 24) {
+            log.record(0, LogCleaner.NONE, false, 0, 0);
+            rest -= 8;
+        }
+        boolean hasValue = rest >= 16;
+        int keyBytes = rest - (hasValue ? 16 : 8);
+        log.record(log.count(4), keyBytes == 0 ? LogCleaner.NONE : keyBytes, hasValue, 0, Integer.MAX_VALUE);
+        log.close(NO_PRODUCER);
     }
 
     /** A batch of 61 + 40 * 24 = 1021 bytes: alone in its segment, so all before it is closed. */

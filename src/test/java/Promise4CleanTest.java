@@ -19,6 +19,7 @@ public final class Promise4CleanTest {
         due.end();
     }
 
+    /** "Illegal argument: time is below 0". */
     private static void refusesWrongArguments(Due due) {
         LogCleaner log = new LogCleaner();
         Logs.one(log, 1, -1);
@@ -27,8 +28,12 @@ public final class Promise4CleanTest {
         due.illegalArgument("clean at -1", log, () -> log.clean(-1));
         due.illegalArgument("clean long ago", log, () -> log.clean(Integer.MIN_VALUE));
         due.answer("clean at 0", log.clean(0), 1);
+        due.answer("clean at the end", log.clean(Integer.MAX_VALUE), 0);
+        LogCleaner empty = new LogCleaner();
+        due.illegalArgument("clean of nothing at -1", empty, () -> empty.clean(-1));
     }
 
+    /** "a record of a closed segment GOES". */
     private static void leavesTheOpenSegment(Due due) {
         LogCleaner log = new LogCleaner();
         Logs.one(log, 1, -1);
@@ -43,6 +48,7 @@ public final class Promise4CleanTest {
         due.text("what is left before the wall", Logs.bases(log), "1 3");
     }
 
+    /** "if a later record in the log (in any segment) has the same key". */
     private static void takesWhatALaterOneReplaces(Due due) {
         LogCleaner log = new LogCleaner();
         log.record(1, 1, true, 10, 0);
@@ -66,6 +72,7 @@ public final class Promise4CleanTest {
         due.answer("clean again", log.clean(0), 0);
     }
 
+    /** "has the same key": as many bytes, and the same ones. */
     private static void tellsKeysApart(Due due) {
         LogCleaner log = new LogCleaner();
         for (int keyBytes = -1; keyBytes <= 8; keyBytes++) {
@@ -86,6 +93,7 @@ public final class Promise4CleanTest {
         due.answer("0x7F.. of seven bytes went", log.told(15, 0), 17);
     }
 
+    /** "has the same key": those without a key have none. */
     private static void leavesRecordsWithoutAKey(Due due) {
         LogCleaner log = new LogCleaner();
         log.record(1, -1, true, 1, 0);
@@ -97,6 +105,7 @@ public final class Promise4CleanTest {
         due.answer("records", log.batch(0, 1), 3);
     }
 
+    /** "a time that is not greater than that one less 1000". */
     private static void leavesWordsThatAKeyIsGoneForAWhile(Due due) {
         LogCleaner log = new LogCleaner();
         log.record(1, 1, false, 0, 500);
@@ -119,6 +128,7 @@ public final class Promise4CleanTest {
         due.answer("what is left", log.batch(0, 1), 2);
     }
 
+    /** "a later record in the log": also one that goes itself. */
     private static void takesAKeyWithItsLastWord(Due due) {
         LogCleaner log = new LogCleaner();
         log.record(1, 1, true, 7, 5000);
@@ -133,6 +143,7 @@ public final class Promise4CleanTest {
         due.answer("offsets are not used again", log.close(-1), 42);
     }
 
+    /** "a later record in the log": the draft is not in it. */
     private static void leavesTheDraft(Due due) {
         LogCleaner log = new LogCleaner();
         Logs.one(log, 1, -1);
@@ -144,6 +155,7 @@ public final class Promise4CleanTest {
         due.answer("the batch does", log.clean(0), 1);
     }
 
+    /** "unless the log knows it". */
     private static void leavesWhatTheLogKnows(Due due) {
         LogCleaner log = new LogCleaner();
         Logs.one(log, 1, 4);
@@ -166,6 +178,7 @@ public final class Promise4CleanTest {
         due.text("batches again", Logs.bases(log), "1 3 4 6 46");
     }
 
+    /** "A closed segment's batch of which no record is left goes, too": in a later cleaning, if it was known. */
     private static void takesABatchThatTheLogKnewOnce(Due due) {
         LogCleaner log = new LogCleaner();
         Logs.one(log, 1, 4);
@@ -187,6 +200,7 @@ public final class Promise4CleanTest {
         due.answer("how many", log.count(2), 3);
     }
 
+    /** "All that stay of closed segments come into new ones, in their order". */
     private static void packsAnew(Due due) {
         LogCleaner log = new LogCleaner();
         Logs.many(log, 0, 30, -1);
@@ -204,6 +218,7 @@ public final class Promise4CleanTest {
         due.answer("its batch's size", log.batch(0, 3), 301);
     }
 
+    /** "If no record and no batch goes, segments stay as they are". */
     private static void packsNothingIfNothingGoes(Due due) {
         LogCleaner log = new LogCleaner();
         Logs.many(log, 0, 30, -1);
@@ -218,6 +233,7 @@ public final class Promise4CleanTest {
         due.text("and come together", Logs.segments(log), "0 0 1 2");
     }
 
+    /** "as if they came anew there": one of more than 1000 lies alone. */
     private static void keepsALargeBatchAlone(Due due) {
         LogCleaner log = new LogCleaner();
         Logs.one(log, 1, -1);
@@ -239,6 +255,7 @@ public final class Promise4CleanTest {
         due.text("they lie together: 78, 901", Logs.segments(log), "0 0 1 2 3 3");
     }
 
+    /** "the open one stays behind these": with the room that it had. */
     private static void keepsTheRoomOfTheOpenSegment(Due due) {
         LogCleaner log = new LogCleaner();
         Logs.wall(log, 0);

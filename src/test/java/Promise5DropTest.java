@@ -7,6 +7,8 @@ public final class Promise5DropTest {
         neverDropsTheOpenOne(due);
         forgetsWhatItDrops(due);
         dropsEmptyBatches(due);
+        dropsOfOneSegment(due);
+        leavesTheRoomOfTheOpenOne(due);
         due.end();
     }
 
@@ -22,17 +24,22 @@ public final class Promise5DropTest {
         return log;
     }
 
+    /** "Illegal argument: n is not 0 .. 400". */
     private static void refusesWrongArguments(Due due) {
         LogCleaner log = fiveSegments();
         int[] wrong = {-1, 401, Integer.MIN_VALUE, Integer.MAX_VALUE};
         for (int n : wrong) {
             due.illegalArgument("drop of " + n, log, () -> log.drop(n));
         }
+        due.answer("drop of 0", log.drop(0), 0);
+        due.answer("drop of 400", log.drop(400), 166);
+        due.illegalArgument("drop of 401 when none is closed", log, () -> log.drop(401));
         LogCleaner empty = new LogCleaner();
         due.illegalArgument("drop of 401 of nothing", empty, () -> empty.drop(401));
         due.answer("drop of 400 of nothing", empty.drop(400), 0);
     }
 
+    /** "The first n segments go ..: how many records went". */
     private static void dropsTheFirst(Due due) {
         LogCleaner log = fiveSegments();
         log.record(7, 1, true, 7, 7);
@@ -51,6 +58,7 @@ public final class Promise5DropTest {
         due.text("segments then", Logs.segments(log), "0 1 2 2 2");
     }
 
+    /** "but not the open one (all others, if there are less)": one less, as many, one more, all. */
     private static void neverDropsTheOpenOne(Due due) {
         LogCleaner log = fiveSegments();
         due.answer("drop of all", log.drop(400), 166);
@@ -68,6 +76,7 @@ public final class Promise5DropTest {
         due.answer("drop of three of five", three.drop(3), 123);
     }
 
+    /** "The first n segments go": with all that the log knew and told of them. */
     private static void forgetsWhatItDrops(Due due) {
         LogCleaner log = fiveSegments();
         due.text("known", Logs.known(log), "0 1 1 1 1 1");
@@ -80,6 +89,7 @@ public final class Promise5DropTest {
         due.text("known of those in the log", Logs.known(log), "1 0 1 1 1");
     }
 
+    /** "how many records went": none, if the batches of a segment are empty. */
     private static void dropsEmptyBatches(Due due) {
         LogCleaner log = new LogCleaner();
         Logs.one(log, 1, 0);
@@ -91,5 +101,37 @@ public final class Promise5DropTest {
         due.answer("drop of empty batches", log.drop(1), 0);
         due.text("batches then", Logs.bases(log), "2 42");
         due.text("segments then", Logs.segments(log), "0 1");
+    }
+
+    /** "but not the open one": with no segment and with one there is nothing to drop. */
+    private static void dropsOfOneSegment(Due due) {
+        LogCleaner log = new LogCleaner();
+        due.answer("drop of one of none", log.drop(1), 0);
+        log.record(1, 1, true, 1, 1);
+        due.answer("drop with a draft alone", log.drop(400), 0);
+        due.text("the draft stays", Logs.counts(log), "0 0 0 1 0");
+        log.close(0);
+        int[] all = {0, 1, 2, 400};
+        for (int n : all) {
+            due.answer("drop of " + n + " of one", log.drop(n), 0);
+            due.text("it stays", Logs.counts(log), "1 1 1 0 1");
+        }
+        Logs.wall(log, 0);
+        due.answer("drop of one of two", log.drop(1), 1);
+        due.text("the second one stays", Logs.counts(log), "40 1 1 0 41");
+    }
+
+    /** "The first n segments go": the open one has the room that it had. */
+    private static void leavesTheRoomOfTheOpenOne(Due due) {
+        int[] sizes = {499, 500, 501};
+        String[] segments = {"0 0", "0 0", "0 1"};
+        for (int i = 0; i < sizes.length; i++) {
+            LogCleaner log = new LogCleaner();
+            Logs.sized(log, 900);
+            Logs.sized(log, 500);
+            log.drop(1);
+            Logs.sized(log, sizes[i]);
+            due.text("500 and " + sizes[i], Logs.segments(log), segments[i]);
+        }
     }
 }

@@ -2,33 +2,78 @@
 public final class Promise7BatchTest {
     public static void main(String[] args) {
         Due due = new Due();
-        refusesWrongArguments(due);
+        refusesABatchThatIsNotThere(due);
+        refusesAPartThatIsNotThere(due);
+        refusesABatchThatWent(due);
         tellsEachPart(due);
+        tellsAnEmptyBatch(due);
         tellsSizes(due);
         knowsTheLatestTwo(due);
         due.end();
     }
 
-    private static void refusesWrongArguments(Due due) {
+    /** "Of batch b (from 0)": the first, the last, and one beside each. */
+    private static void refusesABatchThatIsNotThere(Due due) {
         LogCleaner log = new LogCleaner();
         due.illegalArgument("batch 0 of none", log, () -> log.batch(0, 0));
-        Logs.one(log, 1, 0);
+        log.record(3, 1, true, 3, 3);
+        due.illegalArgument("batch 0 of a draft", log, () -> log.batch(0, 0));
+        log.close(0);
         Logs.one(log, 2, 0);
         log.record(3, 1, true, 3, 3);
-        int[] wrongBatches = {-1, 2, 400, Integer.MIN_VALUE, Integer.MAX_VALUE};
-        for (int b : wrongBatches) {
+        due.answer("the first", log.batch(0, 0), 0);
+        due.answer("the last", log.batch(1, 0), 1);
+        int[] wrong = {-1, 2, 400, Integer.MIN_VALUE, Integer.MAX_VALUE};
+        for (int b : wrong) {
             for (int what = 0; what <= 5; what++) {
                 int part = what;
                 due.illegalArgument("batch " + b, log, () -> log.batch(b, part));
             }
         }
-        int[] wrongParts = {-1, 6, Integer.MIN_VALUE, Integer.MAX_VALUE};
-        for (int what : wrongParts) {
+    }
+
+    /** "what = 0 .. 5 .. Illegal argument", of a batch that is there and of one that is not. */
+    private static void refusesAPartThatIsNotThere(Due due) {
+        LogCleaner log = new LogCleaner();
+        Logs.one(log, 1, 0);
+        Logs.one(log, 2, 0);
+        int[] wrong = {-1, 6, Integer.MIN_VALUE, Integer.MAX_VALUE};
+        for (int what : wrong) {
             due.illegalArgument("part " + what, log, () -> log.batch(1, what));
             due.illegalArgument("part " + what + " of no batch", log, () -> log.batch(2, what));
         }
     }
 
+    /** "there is no such thing": what was dropped, or cleaned away. */
+    private static void refusesABatchThatWent(Due due) {
+        LogCleaner log = new LogCleaner();
+        Logs.one(log, 1, -1);
+        Logs.wall(log, 0);
+        Logs.one(log, 1, -1);
+        due.answer("the third batch", log.batch(2, 0), 41);
+        log.clean(0);
+        due.answer("the second is the last", log.batch(1, 0), 41);
+        due.illegalArgument("the third after cleaning", log, () -> log.batch(2, 0));
+        log.drop(1);
+        due.answer("the first is the last", log.batch(0, 0), 41);
+        due.illegalArgument("the second after dropping", log, () -> log.batch(1, 0));
+    }
+
+    /** The same of a batch without records: 0 records, 61 bytes. */
+    private static void tellsAnEmptyBatch(Due due) {
+        LogCleaner log = new LogCleaner();
+        Logs.wall(log, 0);
+        Logs.one(log, 1, 0);
+        Logs.wall(log, 100);
+        Logs.one(log, 1, -1);
+        log.clean(0);
+        int[] want = {40, 0, 0, 61, 1, 1};
+        for (int what = 0; what <= 5; what++) {
+            due.answer("part " + what + " of an empty batch", log.batch(1, what), want[what]);
+        }
+    }
+
+    /** "what = 0 its BASE, 1 how many records .., 5 whether the log knows it, 1 or 0". */
     private static void tellsEachPart(Due due) {
         LogCleaner log = new LogCleaner();
         Logs.many(log, 0, 3, 12);
@@ -43,6 +88,7 @@ public final class Promise7BatchTest {
         }
     }
 
+    /** "3 its SIZE", from the least to the largest. */
     private static void tellsSizes(Due due) {
         for (int keyBytes = -1; keyBytes <= 8; keyBytes++) {
             LogCleaner log = new LogCleaner();
@@ -59,6 +105,7 @@ public final class Promise7BatchTest {
         due.answer("the largest size", large.batch(0, 3), 2461);
     }
 
+    /** "5 whether the log knows it, 1 or 0". */
     private static void knowsTheLatestTwo(Due due) {
         LogCleaner log = new LogCleaner();
         Logs.one(log, 1, 0);

@@ -5,10 +5,13 @@ public final class Promise9LatestTest {
         refusesWrongArguments(due);
         findsTheLatest(due);
         tellsLengthsApart(due);
+        findsKeysAtTheEndsOfLong(due);
+        findsTheFirstOffset(due);
         forgetsWhatWent(due);
         due.end();
     }
 
+    /** "Illegal argument: keyBytes are not 0 .. 8". */
     private static void refusesWrongArguments(Due due) {
         LogCleaner log = new LogCleaner();
         log.record(0, -1, true, 0, 0);
@@ -17,9 +20,11 @@ public final class Promise9LatestTest {
         for (int keyBytes : wrong) {
             due.illegalArgument("latest of " + keyBytes + " bytes", log, () -> log.latest(0, keyBytes));
         }
+        due.answer("latest of 8 bytes", log.latest(0, 8), LogCleaner.NONE);
         due.answer("a record without a key is not one with an empty key", log.latest(0, 0), LogCleaner.NONE);
     }
 
+    /** "The offset of the latest record in the log with a key": the latest to come, whatever its time. */
     private static void findsTheLatest(Due due) {
         LogCleaner log = new LogCleaner();
         log.record(1, 1, true, 0, 9);
@@ -35,6 +40,7 @@ public final class Promise9LatestTest {
         due.answer("a key that is not there", log.latest(3, 1), LogCleaner.NONE);
     }
 
+    /** "with a key": the lowest keyBytes bytes, of each length. */
     private static void tellsLengthsApart(Due due) {
         LogCleaner log = new LogCleaner();
         long key = 0x8182838485868788L;
@@ -53,6 +59,32 @@ public final class Promise9LatestTest {
         }
     }
 
+    /** "with a key": the ends of long are keys like others. */
+    private static void findsKeysAtTheEndsOfLong(Due due) {
+        long[] keys = {Long.MIN_VALUE, Long.MIN_VALUE + 1, -1, 0, Long.MAX_VALUE - 1, Long.MAX_VALUE};
+        LogCleaner log = new LogCleaner();
+        for (long key : keys) {
+            due.answer("before it came", log.latest(key, 8), LogCleaner.NONE);
+            log.record(key, 8, true, 0, 0);
+            log.close(0);
+        }
+        for (int i = 0; i < keys.length; i++) {
+            due.answer("latest", log.latest(keys[i], 8), i);
+        }
+    }
+
+    /** "NONE without one": the offset 0 is not none, and an empty log has none. */
+    private static void findsTheFirstOffset(Due due) {
+        LogCleaner log = new LogCleaner();
+        due.answer("of an empty log", log.latest(0, 0), LogCleaner.NONE);
+        log.record(5, 0, true, 0, 0);
+        due.answer("of a draft", log.latest(0, 0), LogCleaner.NONE);
+        log.close(0);
+        due.answer("of the first record", log.latest(0, 0), 0);
+        due.answer("of another length", log.latest(0, 1), LogCleaner.NONE);
+    }
+
+    /** "in the log; NONE without one". */
     private static void forgetsWhatWent(Due due) {
         LogCleaner log = new LogCleaner();
         log.record(1, 1, true, 0, 0);
