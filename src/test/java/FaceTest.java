@@ -1,4 +1,5 @@
 import java.lang.reflect.Constructor;
+import java.lang.reflect.Executable;
 import java.lang.reflect.Field;
 import java.lang.reflect.Method;
 import java.lang.reflect.Modifier;
@@ -12,6 +13,9 @@ public final class FaceTest {
         due.answer("NONE", LogCleaner.NONE, -1);
         due.text("the class", Modifier.toString(LogCleaner.class.getModifiers()), "public final");
         due.text("what can be seen", seen().toString(), face().toString());
+        due.text("open classes inside", openClasses().toString(), "[]");
+        due.text("what it extends", LogCleaner.class.getGenericSuperclass().getTypeName(), "java.lang.Object");
+        due.answer("what it implements", LogCleaner.class.getInterfaces().length, 0);
         due.text("private methods with a public name", shadowing().toString(), "[]");
         due.end();
     }
@@ -19,15 +23,15 @@ public final class FaceTest {
     private static TreeSet<String> face() {
         return new TreeSet<>(Arrays.asList(
             "public static final int NONE",
-            "LogCleaner()",
-            "int record(long,int,boolean,long,int) throws IllegalArgumentException,IllegalStateException",
-            "int close(int) throws IllegalArgumentException,IllegalStateException",
-            "int clean(int) throws IllegalArgumentException",
-            "int drop(int) throws IllegalArgumentException",
-            "int count(int) throws IllegalArgumentException",
-            "int batch(int,int) throws IllegalArgumentException",
-            "long told(int,int) throws IllegalArgumentException",
-            "int latest(long,int) throws IllegalArgumentException"));
+            "public LogCleaner() throws ",
+            "public int record(long,int,boolean,long,int) throws IllegalArgumentException,IllegalStateException",
+            "public int close(int) throws IllegalArgumentException,IllegalStateException",
+            "public int clean(int) throws IllegalArgumentException",
+            "public int drop(int) throws IllegalArgumentException",
+            "public int count(int) throws IllegalArgumentException",
+            "public int batch(int,int) throws IllegalArgumentException",
+            "public long told(int,int) throws IllegalArgumentException",
+            "public int latest(long,int) throws IllegalArgumentException"));
     }
 
     private static TreeSet<String> seen() {
@@ -38,15 +42,31 @@ public final class FaceTest {
             }
         }
         for (Constructor<?> made : LogCleaner.class.getDeclaredConstructors()) {
-            seen.add(made.getName() + "(" + names(made.getParameterTypes()) + ")");
+            seen.add(Modifier.toString(made.getModifiers()) + " " + made.getName() + rest(made));
         }
         for (Method method : LogCleaner.class.getDeclaredMethods()) {
             if (!Modifier.isPrivate(method.getModifiers())) {
-                seen.add(method.getReturnType() + " " + method.getName() + "(" + names(method.getParameterTypes())
-                    + ") throws " + names(method.getExceptionTypes()));
+                seen.add(Modifier.toString(method.getModifiers()) + " " + method.getReturnType() + " "
+                    + method.getName() + rest(method));
             }
         }
         return seen;
+    }
+
+    private static String rest(Executable called) {
+        return "(" + names(called.getParameterTypes()) + ") throws " + names(called.getExceptionTypes());
+    }
+
+    /** Only the document's class itself may be seen: those inside it are private or package-visible. */
+    private static TreeSet<String> openClasses() {
+        TreeSet<String> open = new TreeSet<>();
+        for (Class<?> inside : LogCleaner.class.getDeclaredClasses()) {
+            int modifiers = inside.getModifiers();
+            if (Modifier.isPublic(modifiers) || Modifier.isProtected(modifiers) || !Modifier.isStatic(modifiers)) {
+                open.add(inside.getName());
+            }
+        }
+        return open;
     }
 
     private static TreeSet<String> shadowing() {
